@@ -31,6 +31,8 @@ public final class RouteStrides {
     private static final int MOST_STRIDE = 6;
     private static final int LEAST_LEVELS = 6;
     private static final int MOST_LEVELS = 16;
+    private static final int FIRST_LEVELS = 8;
+    private static final int FIRST_STRIDE = 4;
 
     // Each rule parts what lies around it in two places at most.
     private static final int MOST_SPANS = 2 * MOST_RULES + 1;
@@ -68,6 +70,7 @@ public final class RouteStrides {
     private final Spans otherSpans = new Spans();
     private final Nodes nodes = new Nodes();
     private final Nodes otherNodes = new Nodes();
+    private final Kinds kinds = new Kinds();
     private final Fewest few = new Fewest();
     private final Costs costs = new Costs();
     private final Pieces pieces = new Pieces();
@@ -283,7 +286,7 @@ public final class RouteStrides {
         }
         seeSpans();
         otherSpans.survey(shelves[shelf]);
-        return what == 0 ? spans.differing(otherSpans) : spans.firstDiffering(otherSpans);
+        return spans.differing(otherSpans, what == 1);
     }
 
     // ---- rules and hops
@@ -369,10 +372,7 @@ public final class RouteStrides {
 
     public int stored(int node, int i) {
         seeNodes();
-        if (!nodes.has(node) || i < 0 || i >= nodes.storedBy(node)) {
-            return MISSING;
-        }
-        return nodes.storedHop[nodes.storedFrom[node] + i];
+        return nodes.storedAt(node, i);
     }
 
     public int slot(int node, int slot, int what) {
@@ -393,7 +393,7 @@ public final class RouteStrides {
             return NONE;
         }
         seeKinds();
-        return nodes.kind[node] == nodes.kind[other] ? 1 : 0;
+        return kinds.kind[node] == kinds.kind[other] ? 1 : 0;
     }
 
     public int level(int level, int what) {
@@ -410,7 +410,7 @@ public final class RouteStrides {
                 return nodes.storedIn(nodes.startOfLevel(level), nodes.behindLevel(level));
             case 3:
                 seeKinds();
-                return nodes.unlikeIn(nodes.startOfLevel(level), nodes.behindLevel(level));
+                return kinds.unlikeIn(nodes.startOfLevel(level), nodes.behindLevel(level));
             default:
                 return NONE;
         }
@@ -507,6 +507,15 @@ public final class RouteStrides {
                 return now.hops();
             case 2:
                 return now.levels;
+            case 3:
+                seeNodes();
+                return nodes.size;
+            case 4:
+                seeKinds();
+                return kinds.unlikeIn(0, nodes.size);
+            case 5:
+                seeNodes();
+                return nodes.storedIn(0, nodes.size);
             case 6:
                 seeSpans();
                 return spans.size;
@@ -521,24 +530,12 @@ public final class RouteStrides {
                 return tape.size;
             case 11:
                 return kept;
+            case 12:
+                seeNodes();
+                return nodes.deepest();
             default:
-                return countNodes(what);
+                return NONE;
         }
-    }
-
-    private int countNodes(int what) {
-        if (what != 3 && what != 4 && what != 5 && what != 12) {
-            return NONE;
-        }
-        seeNodes();
-        if (what == 3) {
-            return nodes.size;
-        }
-        if (what == 4) {
-            seeKinds();
-            return nodes.unlikeIn(0, nodes.size);
-        }
-        return what == 5 ? nodes.storedIn(0, nodes.size) : nodes.deepest();
     }
 
     // ---- what the calls share
@@ -651,7 +648,7 @@ public final class RouteStrides {
     private void seeKinds() {
         if ((known & KINDS_KNOWN) == 0) {
             seeNodes();
-            nodes.findKinds();
+            kinds.find(nodes);
             known |= KINDS_KNOWN;
         }
     }
@@ -702,9 +699,9 @@ public final class RouteStrides {
         }
 
         private void takeFirstStrides() {
-            levels = 8;
-            for (int i = 0; i < levels; i++) {
-                stride[i] = 4;
+            levels = FIRST_LEVELS;
+            for (int i = 0; i < FIRST_LEVELS; i++) {
+                stride[i] = FIRST_STRIDE;
             }
         }
 
@@ -1192,31 +1189,26 @@ public final class RouteStrides {
             return sum;
         }
 
-        long differing(Spans other) {
+        /** How many addresses have other ways in both, or the first one (-2: none). */
+        long differing(Spans other, boolean firstOne) {
             long sum = 0;
-            for (int i = 0; i < size && i < MOST_SPANS; i++) {
-                for (int j = 0; j < other.size && j < MOST_SPANS; j++) {
-                    long from = Math.max(first[i], other.first[j]);
-                    long to = Math.min(last[i], other.last[j]);
-                    if (from <= to && keyOfSpan[i] != other.keyOfSpan[j]) {
-                        sum += to - from + 1;
-                    }
-                }
-            }
-            return sum;
-        }
-
-        long firstDiffering(Spans other) {
-            for (int i = 0; i < size && i < MOST_SPANS; i++) {
-                for (int j = 0; j < other.size && j < MOST_SPANS; j++) {
-                    long from = Math.max(first[i], other.first[j]);
-                    long to = Math.min(last[i], other.last[j]);
-                    if (from <= to && keyOfSpan[i] != other.keyOfSpan[j]) {
+            int i = 0;
+            int j = 0;
+            while (i < size && i < MOST_SPANS && j < other.size && j < MOST_SPANS) {
+                long from = Math.max(first[i], other.first[j]);
+                long to = Math.min(last[i], other.last[j]);
+                if (keyOfSpan[i] != other.keyOfSpan[j]) {
+                    if (firstOne) {
                         return from;
                     }
+                    sum += to - from + 1;
                 }
+                // The one that ends here is behind us, or both.
+                boolean otherEnds = other.last[j] <= to;
+                i += last[i] <= to ? 1 : 0;
+                j += otherEnds ? 1 : 0;
             }
-            return MISSING;
+            return firstOne ? MISSING : sum;
         }
     }
 
@@ -1230,14 +1222,13 @@ public final class RouteStrides {
         final long[] child = new long[MOST_NODES];
         final long[] run = new long[MOST_NODES];
         final int[] parent = new int[MOST_NODES];
-        // The least node of its level that is like it.
-        final int[] kind = new int[MOST_NODES];
-        // Of node n storedFrom[n] to storedFrom[n + 1] - 1.
-        final int[] storedFrom = new int[MOST_NODES + 1];
-        final int[] storedHop = new int[MOST_STORED];
+        final int[] firstChild = new int[MOST_NODES];
+        // The nodes gone through to the last address that was asked for.
         final int[] trail = new int[MOST_LEVELS];
+        // Of node n storedFrom[n] to storedFrom[n + 1] - 1.
+        private final int[] storedFrom = new int[MOST_NODES + 1];
+        private final int[] storedHop = new int[MOST_STORED];
         private final int[] storedKey = new int[MOST_STORED];
-        private final int[] firstChild = new int[MOST_NODES];
         // The span that has the node's first address.
         private final int[] spanAt = new int[MOST_NODES];
         private final int[] levelFrom = new int[MOST_LEVELS + 1];
@@ -1337,6 +1328,11 @@ public final class RouteStrides {
             return has(n) ? storedFrom[n + 1] - storedFrom[n] : 0;
         }
 
+        /** The i-th hop that a node stores, -2 without. */
+        int storedAt(int n, int i) {
+            return has(n) && i >= 0 && i < storedFrom[n + 1] - storedFrom[n] ? storedHop[storedFrom[n] + i] : MISSING;
+        }
+
         int storedIn(int from, int behind) {
             return from >= 0 && from < behind && behind <= MOST_NODES ? storedFrom[behind] - storedFrom[from] : 0;
         }
@@ -1403,45 +1399,13 @@ public final class RouteStrides {
             return sum;
         }
 
-        // From the last level up, so that the kinds of the nodes that a node leads to are there.
-        void findKinds() {
-            for (int i = levels - 1; i >= 0; i--) {
-                int start = startOfLevel(i);
-                int behind = behindLevel(i);
-                for (int n = start; n < behind && n < MOST_NODES; n++) {
-                    kind[n] = firstLike(n, start);
-                }
+        /** Whether a node has the bits and the ways that a node here or of other nodes has. */
+        boolean isSame(int m, Nodes other, int n) {
+            if (!has(m) || !other.has(n) || child[m] != other.child[n] || run[m] != other.run[n]) {
+                return false;
             }
-        }
-
-        private int firstLike(int n, int start) {
-            for (int m = start; m < n; m++) {
-                if (kind[m] == m && hasSameBits(m, n) && leadsToLike(m, n) && storesSame(m, this, n)) {
-                    return m;
-                }
-            }
-            return n;
-        }
-
-        private boolean hasSameBits(int m, int n) {
-            return child[m] == child[n] && run[m] == run[n];
-        }
-
-        private boolean leadsToLike(int m, int n) {
-            int children = Long.bitCount(child[n]);
-            for (int i = 0; i < children; i++) {
-                int a = firstChild[m] + i;
-                int b = firstChild[n] + i;
-                if (!has(a) || !has(b) || kind[a] != kind[b]) {
-                    return false;
-                }
-            }
-            return true;
-        }
-
-        private boolean storesSame(int m, Nodes other, int n) {
-            int there = storedBy(m);
-            if (there != other.storedBy(n)) {
+            int there = storedFrom[m + 1] - storedFrom[m];
+            if (there != other.storedFrom[n + 1] - other.storedFrom[n]) {
                 return false;
             }
             for (int i = 0; i < there; i++) {
@@ -1454,14 +1418,6 @@ public final class RouteStrides {
             return true;
         }
 
-        int unlikeIn(int from, int behind) {
-            int found = 0;
-            for (int n = from; n < behind && n < MOST_NODES; n++) {
-                found += kind[n] == n ? 1 : 0;
-            }
-            return found;
-        }
-
         /** How many nodes are only here, only in other ones, or not the same in both. */
         int othersThan(Nodes other) {
             int found = 0;
@@ -1469,7 +1425,7 @@ public final class RouteStrides {
             int n = 0;
             while (has(m) && other.has(n)) {
                 long order = orderOf(m, other, n);
-                if (order != 0 || child[m] != other.child[n] || run[m] != other.run[n] || !storesSame(m, other, n)) {
+                if (order != 0 || !isSame(m, other, n)) {
                     found++;
                 }
                 m += order <= 0 ? 1 : 0;
@@ -1481,6 +1437,78 @@ public final class RouteStrides {
         private long orderOf(int m, Nodes other, int n) {
             int levelsApart = levelOf[m] - other.levelOf[n];
             return levelsApart != 0 ? levelsApart : value[m] - other.value[n];
+        }
+    }
+
+    /** Which nodes are like one another. */
+    private static final class Kinds {
+        private static final int ROWS = 64;
+
+        // The least node of its level that is like it.
+        final int[] kind = new int[MOST_NODES];
+        // The first of each kind of a level, in rows by what they hold.
+        private final int[] rowStart = new int[ROWS];
+        private final int[] nextInRow = new int[MOST_NODES];
+
+        // From the last level up, so that the kinds of the nodes that a node leads to are there.
+        void find(Nodes nodes) {
+            for (int i = MOST_LEVELS - 1; i >= 0; i--) {
+                for (int row = 0; row < ROWS; row++) {
+                    rowStart[row] = NONE;
+                }
+                int behind = nodes.behindLevel(i);
+                for (int n = nodes.startOfLevel(i); n < behind && n < MOST_NODES; n++) {
+                    kind[n] = kindOf(nodes, n);
+                }
+            }
+        }
+
+        private int kindOf(Nodes nodes, int n) {
+            int row = rowOf(nodes, n);
+            for (int m = rowStart[row]; m >= 0 && m < MOST_NODES; m = nextInRow[m]) {
+                if (nodes.isSame(m, nodes, n) && leadToLike(nodes, m, n)) {
+                    return m;
+                }
+            }
+            nextInRow[n] = rowStart[row];
+            rowStart[row] = n;
+            return n;
+        }
+
+        private int rowOf(Nodes nodes, int n) {
+            long sum = nodes.child[n] + 31 * nodes.run[n];
+            int there = nodes.storedBy(n);
+            for (int i = 0; i < there; i++) {
+                sum = 31 * sum + nodes.storedAt(n, i);
+            }
+            int children = Long.bitCount(nodes.child[n]);
+            for (int i = 0; i < children; i++) {
+                sum = 31 * sum + kindOfChild(nodes, n, i);
+            }
+            return (int) (sum ^ (sum >> 32)) & (ROWS - 1);
+        }
+
+        private boolean leadToLike(Nodes nodes, int m, int n) {
+            int children = Long.bitCount(nodes.child[n]);
+            for (int i = 0; i < children; i++) {
+                if (kindOfChild(nodes, m, i) != kindOfChild(nodes, n, i)) {
+                    return false;
+                }
+            }
+            return true;
+        }
+
+        private int kindOfChild(Nodes nodes, int n, int i) {
+            int child = nodes.firstChild[n] + i;
+            return nodes.has(child) ? kind[child] : NONE;
+        }
+
+        int unlikeIn(int from, int behind) {
+            int found = 0;
+            for (int n = from; n >= 0 && n < behind && n < MOST_NODES; n++) {
+                found += kind[n] == n ? 1 : 0;
+            }
+            return found;
         }
     }
 
