@@ -1,10 +1,5 @@
 /** Each promise of the document with answers worked out by hand from its words. */
-public final class PromisesTest {
-    private static final int NONE = RouteStrides.NONE;
-    private static int wrong;
-    private static int asked;
-    private static int promise;
-
+public final class PromisesTest extends Tables {
     public static void main(String[] args) {
         newObject();
         tape();
@@ -35,65 +30,11 @@ public final class PromisesTest {
         fewests();
         means();
         counts();
-        System.out.println("PromisesTest: " + asked + " answers, " + wrong + " are not as due");
-        if (wrong != 0) {
-            System.exit(1);
-        }
-    }
-
-    private static void due(String call, long got, long want) {
-        asked++;
-        if (got != want) {
-            wrong++;
-            System.out.println("promise " + promise + ": " + call + " answered " + got + ", due is " + want);
-        }
-    }
-
-    private static int ip(int a, int b, int c, int d) {
-        return a << 24 | b << 16 | c << 8 | d;
-    }
-
-    private static void feedText(RouteStrides x, String text) {
-        for (int at = 0; at < text.length(); at += 20) {
-            int[] five = new int[5];
-            for (int i = 0; i < 20 && at + i < text.length(); i++) {
-                five[i / 4] |= text.charAt(at + i) << 24 - 8 * (i % 4);
-            }
-            x.feed(five[0], five[1], five[2], five[3], five[4]);
-        }
-        x.end(text.length());
-    }
-
-    private static int told(RouteStrides x, String text) {
-        feedText(x, text);
-        return x.tell();
-    }
-
-    private static RouteStrides of(String text) {
-        RouteStrides x = new RouteStrides();
-        due("tell() of " + text + " is no fault", told(x, text) >= 0 ? 1 : 0, 1);
-        return x;
-    }
-
-    /** The upper half to 7 3 (hop 0), of it the beginning 100000 to 7 4 (hop 1). */
-    private static RouteStrides halved() {
-        RouteStrides x = new RouteStrides();
-        x.add(1 << 31, 1, 7, 3);
-        x.add(1 << 31, 6, 7, 4);
-        return x;
-    }
-
-    /** As many rules as there may be, each of its own way. */
-    private static RouteStrides full() {
-        RouteStrides x = new RouteStrides();
-        for (int i = 0; i < 60; i++) {
-            due("add of rule " + i, x.add(i * 4, 30, i, 0), i);
-        }
-        return x;
+        finish("PromisesTest");
     }
 
     private static void newObject() {
-        promise = 1;
+        about = "promise 1";
         RouteStrides x = new RouteStrides();
         due("NONE", RouteStrides.NONE, -1);
         int[] want = {0, 0, 8, 1, 1, 1, 1, 0, 0, 0, 0, 0, 1};
@@ -108,7 +49,7 @@ public final class PromisesTest {
     }
 
     private static void tape() {
-        promise = 2;
+        about = "promise 2";
         RouteStrides x = new RouteStrides();
         for (int i = 1; i <= 20; i++) {
             due("feed " + i, x.feed(i, i, i, i, i), 20 * i);
@@ -125,7 +66,7 @@ public final class PromisesTest {
         due("tell()", x.tell(), 1);
         due("hop(0, 0)", x.hop(0, 0), 1);
         due("hop(0, 1)", x.hop(0, 1), 2);
-        promise = 3;
+        about = "promise 3";
         due("end(1)", x.end(1), NONE);
         due("end(0)", x.end(0), 0);
         x.feed(1, 2, 3, 4, 5);
@@ -140,7 +81,7 @@ public final class PromisesTest {
     }
 
     private static void texts() {
-        promise = 4;
+        about = "promise 4";
         RouteStrides x = new RouteStrides();
         x.add(0, 0, 1, 1);
         x.strides(266666);
@@ -177,7 +118,7 @@ public final class PromisesTest {
     }
 
     private static void faults() {
-        promise = 4;
+        about = "promise 4";
         fault("", 0, 1);
         fault("    ", 4, 1);
         fault("10.0.0.0/8 = 5", 14, 1);
@@ -238,7 +179,7 @@ public final class PromisesTest {
     }
 
     private static void adding() {
-        promise = 5;
+        about = "promise 5";
         RouteStrides x = new RouteStrides();
         due("add", x.add(ip(10, 0, 0, 0), 8, 5, 1), 0);
         due("add again", x.add(ip(10, 0, 0, 0), 8, 5, 1), -2);
@@ -271,7 +212,7 @@ public final class PromisesTest {
     }
 
     private static void hopNumbers() {
-        promise = 5;
+        about = "promise 5";
         RouteStrides x = new RouteStrides();
         x.add(0, 1, 1, 1);
         x.add(0, 2, 2, 2);
@@ -289,7 +230,7 @@ public final class PromisesTest {
     }
 
     private static void withdrawing() {
-        promise = 6;
+        about = "promise 6";
         RouteStrides x = halved();
         due("withdraw of none", x.withdraw(1 << 31, 2), NONE);
         due("withdraw of no beginning", x.withdraw(1, 1), NONE);
@@ -307,7 +248,7 @@ public final class PromisesTest {
     }
 
     private static void ranges() {
-        promise = 7;
+        about = "promise 7";
         RouteStrides x = new RouteStrides();
         // 1, 2-3, 4-7, 8-9, 10
         due("range", x.range(1, 10, 3, 3), 5);
@@ -342,7 +283,7 @@ public final class PromisesTest {
     }
 
     private static void strides() {
-        promise = 8;
+        about = "promise 8";
         RouteStrides x = new RouteStrides();
         due("as they are", x.strides(44444444), -2);
         due("six", x.strides(666662), 6);
@@ -363,7 +304,7 @@ public final class PromisesTest {
     }
 
     private static void gathering() {
-        promise = 9;
+        about = "promise 9";
         RouteStrides x = new RouteStrides();
         due("of nothing", x.gather(), -3);
         x.add(0, 2, 1, 1);
@@ -395,7 +336,7 @@ public final class PromisesTest {
     }
 
     private static void undoing() {
-        promise = 10;
+        about = "promise 10";
         RouteStrides x = new RouteStrides();
         due("undo of nothing", x.undo(), NONE);
         for (int i = 0; i < 12; i++) {
@@ -424,7 +365,7 @@ public final class PromisesTest {
     }
 
     private static void shelves() {
-        promise = 11;
+        about = "promise 11";
         RouteStrides x = halved();
         x.add(0, 8, 9, 9);
         x.withdraw(1 << 31, 1);
@@ -435,7 +376,7 @@ public final class PromisesTest {
         due("keep(0)", x.keep(0), 2);
         due("count(11)", x.count(11), 1);
         due("count(9)", x.count(9), 5);
-        promise = 12;
+        about = "promise 12";
         due("back(1)", x.back(1), -2);
         due("back(2)", x.back(2), NONE);
         due("back(-1)", x.back(-1), NONE);
@@ -463,7 +404,7 @@ public final class PromisesTest {
     }
 
     private static void looking() {
-        promise = 13;
+        about = "promise 13";
         RouteStrides x = halved();
         int[] none = {-1, -1, 1, 0, -1};
         int[] inner = {1, 1, 2, 0, 0};
@@ -496,7 +437,7 @@ public final class PromisesTest {
     }
 
     private static void paths() {
-        promise = 14;
+        about = "promise 14";
         RouteStrides x = new RouteStrides();
         x.add(0, 32, 1, 1);
         x.add(-1, 32, 1, 1);
@@ -513,7 +454,7 @@ public final class PromisesTest {
     }
 
     private static void wouldBeTouched() {
-        promise = 15;
+        about = "promise 15";
         RouteStrides x = new RouteStrides();
         due("of 32 bits", x.would(0, 32, 1, 1), 8);
         due("of 4 bits", x.would(0, 4, 1, 1), 1);
@@ -541,7 +482,7 @@ public final class PromisesTest {
     }
 
     private static void withins() {
-        promise = 16;
+        about = "promise 16";
         RouteStrides x = of("10.0.0.0/8=1 1;10.0.0.0/16=1 1;10.1.0.0/16=1 1;10.1.2.0/24=1 1;11.0.0.0/8=1 1;0.0.0.0/0=1 1");
         due("all", x.within(0, 0, NONE), 6);
         due("10/8", x.within(ip(10, 0, 0, 0), 8, NONE), 4);
@@ -562,7 +503,7 @@ public final class PromisesTest {
     }
 
     private static void differing() {
-        promise = 17;
+        about = "promise 17";
         RouteStrides x = halved();
         due("not kept", x.differs(0, 0), NONE);
         x.keep(0);
@@ -593,7 +534,7 @@ public final class PromisesTest {
     }
 
     private static void rules() {
-        promise = 18;
+        about = "promise 18";
         RouteStrides x = of("128.0.0.0/1=1 1;128.0.0.0/2=2 2;192.0.0.0/2=3 3;0.0.0.0/0=1 1;200.0.0.0/8=1 1");
         int[][] want = {{0, 0, 0, 0, -1}, {1 << 31, 1, 0, 1, 0}, {1 << 31, 2, 1, 0, 1}, {ip(192, 0, 0, 0), 2, 2, 0, 1},
             {ip(200, 0, 0, 0), 8, 0, 0, 3}};
@@ -611,7 +552,7 @@ public final class PromisesTest {
                 due("rule(" + k + ", " + what + ")", x.rule(k, what), -2);
             }
         }
-        promise = 19;
+        about = "promise 19";
         long[] served = {1L << 31, 0, 1L << 30, (1L << 30) - (1L << 24), 1L << 24};
         for (int k = 0; k < served.length; k++) {
             due("served(" + k + ")", x.served(k), served[k]);
@@ -621,7 +562,7 @@ public final class PromisesTest {
     }
 
     private static void hops() {
-        promise = 20;
+        about = "promise 20";
         RouteStrides x = of("128.0.0.0/1=98 1;128.0.0.0/2=2 9;192.0.0.0/2=3 0;200.0.0.0/8=98 1");
         int[][] want = {{98, 1, 2}, {2, 9, 1}, {3, 0, 1}};
         for (int h = 0; h < 3; h++) {
@@ -635,7 +576,7 @@ public final class PromisesTest {
         due("hop(-1, 0)", x.hop(-1, 0), NONE);
         due("hop(60, 0)", x.hop(60, 0), NONE);
         due("hop(MAX, 0)", x.hop(Integer.MAX_VALUE, 0), NONE);
-        promise = 21;
+        about = "promise 21";
         due("reach(0)", x.reach(0), 1L << 24);
         due("reach(1)", x.reach(1), 1L << 30);
         due("reach(2)", x.reach(2), (1L << 30) - (1L << 24));
@@ -650,7 +591,7 @@ public final class PromisesTest {
     }
 
     private static void nodes() {
-        promise = 22;
+        about = "promise 22";
         RouteStrides x = halved();
         long[][] want = {{256, 513, 0, 0, 2, -1}, {0, 17, 1, 1L << 31, 2, 0}};
         for (int n = 0; n < 2; n++) {
@@ -668,7 +609,7 @@ public final class PromisesTest {
                 due("node(" + n + ", " + what + ")", x.node(n, what), -2);
             }
         }
-        promise = 23;
+        about = "promise 23";
         due("stored(0, 0)", x.stored(0, 0), NONE);
         due("stored(0, 1)", x.stored(0, 1), 0);
         due("stored(0, 2)", x.stored(0, 2), -2);
@@ -677,7 +618,7 @@ public final class PromisesTest {
         due("stored(1, 1)", x.stored(1, 1), 0);
         due("stored(2, 0)", x.stored(2, 0), -2);
         due("stored(-1, 0)", x.stored(-1, 0), -2);
-        promise = 24;
+        about = "promise 24";
         due("slot(0, 8, 0)", x.slot(0, 8, 0), 1);
         due("slot(0, 8, 1)", x.slot(0, 8, 1), -2);
         due("slot(0, 7, 0)", x.slot(0, 7, 0), -1);
@@ -695,7 +636,7 @@ public final class PromisesTest {
     }
 
     private static void wideNodes() {
-        promise = 22;
+        about = "promise 22";
         RouteStrides x = new RouteStrides();
         x.strides(666662);
         x.add(ip(252, 0, 0, 0), 6, 1, 1);
@@ -728,7 +669,7 @@ public final class PromisesTest {
     }
 
     private static void likeness() {
-        promise = 25;
+        about = "promise 25";
         RouteStrides x = of("16.0.0.0/5=1 1;32.0.0.0/5=1 1;48.0.0.0/5=2 2;64.0.0.0/9=1 1;80.0.0.0/9=1 1;96.0.0.0/9=2 2");
         // Node 0 leads to 1 .. 6 of level 1; 4 .. 6 lead to 7 .. 9 of level 2.
         due("count(3)", x.count(3), 10);
@@ -753,7 +694,7 @@ public final class PromisesTest {
     }
 
     private static void levels() {
-        promise = 26;
+        about = "promise 26";
         RouteStrides x = halved();
         int[][] want = {{4, 1, 2, 1}, {4, 1, 2, 1}, {4, 0, 0, 0}};
         for (int level = 0; level < want.length; level++) {
@@ -775,7 +716,7 @@ public final class PromisesTest {
     }
 
     private static void spans() {
-        promise = 27;
+        about = "promise 27";
         RouteStrides x = halved();
         x.add(0xC0000000, 2, 7, 3);
         long[][] want = {{0, 0x7FFFFFFFL, -1}, {0x80000000L, 0x83FFFFFFL, 1}, {0x84000000L, 0xFFFFFFFFL, 0}};
@@ -794,7 +735,7 @@ public final class PromisesTest {
     }
 
     private static void covers() {
-        promise = 28;
+        about = "promise 28";
         RouteStrides x = new RouteStrides();
         due("how many", x.cover(1, 10, NONE, 0), 5);
         int[] lengths = {32, 31, 30, 31, 32};
@@ -821,7 +762,7 @@ public final class PromisesTest {
     }
 
     private static void owns() {
-        promise = 29;
+        about = "promise 29";
         RouteStrides x = halved();
         // Hop 0: the upper half without its first 2^26: 100001, 10001, 1001, 101, 11.
         due("own(0, NONE, 0)", x.own(0, NONE, 0), 5);
@@ -848,7 +789,7 @@ public final class PromisesTest {
     }
 
     private static void bests() {
-        promise = 30;
+        about = "promise 30";
         RouteStrides x = new RouteStrides();
         for (int m = 6; m <= 16; m++) {
             due("best(" + m + ", 0)", x.best(m, 0), 4);
@@ -878,7 +819,7 @@ public final class PromisesTest {
     }
 
     private static void fewests() {
-        promise = 31;
+        about = "promise 31";
         RouteStrides x = new RouteStrides();
         due("of nothing", x.fewest(NONE, 0), 0);
         due("of nothing, 0", x.fewest(0, 0), -2);
@@ -912,7 +853,7 @@ public final class PromisesTest {
     }
 
     private static void means() {
-        promise = 32;
+        about = "promise 32";
         RouteStrides x = new RouteStrides();
         due("steps()", x.steps(), Double.doubleToLongBits(1.0));
         x = halved();
@@ -934,7 +875,7 @@ public final class PromisesTest {
     }
 
     private static void counts() {
-        promise = 33;
+        about = "promise 33";
         RouteStrides x = halved();
         x.add(1 << 31, 2, 7, 5);
         x.add(0xA0000000, 3, 7, 5);
