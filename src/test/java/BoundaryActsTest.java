@@ -341,6 +341,17 @@ public final class BoundaryActsTest extends Sentences {
         due("count(0)", x.count(0), 34);
         due("undo()", x.undo(), 2);
         due("count(0)", x.count(0), 2);
+        RouteStrides y = of("0.0.0.0/0=1 1");
+        due("another hop of the only rule", y.range(0, -1, 2, 2), 1);
+        due("count(0)", y.count(0), 1);
+        due("hop(0, 0)", y.hop(0, 0), 2);
+        // Hop 0 is free, but the rule that has 2 2 already keeps its number, and the new one takes it.
+        RouteStrides z = of("0.0.0.9/32=1 1;0.0.0.1/32=2 2");
+        z.withdraw(9, 32);
+        due("one has it, one is new", z.range(1, 2, 2, 2), 2);
+        due("look(1, 0)", z.look(1, 0), 1);
+        due("look(2, 0)", z.look(2, 0), 1);
+        due("hop(0, 0)", z.hop(0, 0), NONE);
     }
 
     @Of(promise = 7, sentence = "-2, and nothing happens: all have it;")
@@ -470,6 +481,10 @@ public final class BoundaryActsTest extends Sentences {
         }, "gather() of all but the last", RouteStrides::gather, -2);
         // Without a quarter of none there is no such rule.
         due("half of none", of("0.0.0.0/2=1 1;64.0.0.0/2=1 1").gather(), 1);
+        RouteStrides x = of("0.0.0.0/1=1 1;128.0.0.0/2=1 1");
+        due("a quarter of none", x.gather(), -2);
+        x.add(3 << 30, 2, 1, 1);
+        due("a quarter of none no more", x.gather(), 1);
     }
 
     @Of(promise = 9, sentence = "-3: they are so already.")

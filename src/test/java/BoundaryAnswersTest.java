@@ -81,6 +81,11 @@ public final class BoundaryAnswersTest extends Sentences {
         y.add(-1 << 26, 6, 1, 1);
         due("slot 63", y.look(-1, 3), 1);
         due("slot 62", y.look((-1 << 26) - 1, 3), 0);
+        RouteStrides z = bothEnds();
+        z.strides(2222222222222222L);
+        due("in the last of sixteen", z.look(-1, 3), 1);
+        due("in the last of sixteen", z.look(-2, 3), 0);
+        due("in the last of sixteen", z.look(0, 3), 0);
     }
 
     @Of(promise = 13, sentence = "4: which HOP it would have, were its RULE withdrawn.")
@@ -799,6 +804,21 @@ public final class BoundaryAnswersTest extends Sentences {
         }
         due("strides as they are don't count", x.strides(2222222222222222L), 16);
         due("m 8 again", x.best(8, 1), 44444444);
+        // Two halves need no node but the first one; both ends need two of each level behind it.
+        due("two ends of spans in one beginning", of("0.0.0.1/32=1 1").best(16, 0), 64);
+        due("two halves", of("128.0.0.0/1=1 1").best(16, 0), 4);
+        due("two halves", of("128.0.0.0/1=1 1").best(16, 1), 266666);
+        due("four quarters", of("64.0.0.0/2=1 1;192.0.0.0/2=1 1").best(16, 0), 4);
+        due("both ends", bothEnds().best(16, 0), 4 + 15 * 8);
+        due("both ends", bothEnds().best(16, 1), 2222222222222222L);
+        // 64 slots of one node; 4 and then 4 nodes of 16 would be 68. What is left has no nodes.
+        RouteStrides y = new RouteStrides();
+        for (int i = 0; i < 60; i++) {
+            y.add(i << 26, 6, i % 2, 0);
+        }
+        due("60 of 6 bits", y.best(16, 0), 64);
+        due("60 of 6 bits", y.best(16, 1), 626666);
+        due("60 of 6 bits, m 6", y.best(6, 1), 626666);
     }
 
     @Of(promise = 30, sentence = "NONE for others.")
@@ -844,6 +864,14 @@ public final class BoundaryAnswersTest extends Sentences {
             due("hop " + k, f.fewest(k, 2), k);
         }
         due("60 already", f.gather(), -3);
+        // As far from one another as they can be.
+        RouteStrides h = new RouteStrides();
+        for (int i = 0; i < 60; i++) {
+            h.add(i << 26 | 1, 32, i, 0);
+        }
+        due("60 far ones", h.fewest(NONE, 0), 60);
+        due("60 far ones, the last", h.fewest(59, 1), 59L << 26 | 1);
+        due("60 far ones already", h.gather(), -3);
         // Of one VALUE the shorter one stands first.
         RouteStrides g = of("0.0.0.0/1=1 1;0.0.0.0/2=2 2;128.0.0.0/1=1 1");
         due("0/0", g.fewest(0, 0), 0);

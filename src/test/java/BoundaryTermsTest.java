@@ -265,6 +265,10 @@ public final class BoundaryTermsTest extends Sentences {
         due("hop(0, 2)", y.hop(0, 2), 1);
         RouteStrides z = of("1.0.0.0/8=1 1;2.0.0.0/8=1 1;1.0.0.0/8=2 2");
         due("the other one has it still", z.look(ip(2, 0, 0, 0), 0), 0);
+        RouteStrides w = of("1.0.0.0/8=1 1;2.0.0.0/8=2 2;1.0.0.0/8=2 2;2.0.0.0/8=2 2;1.0.0.0/8=2 2");
+        due("the hop that it has keeps its number", w.look(ip(1, 0, 0, 0), 0), 1);
+        due("hop(0, 0)", w.hop(0, 0), NONE);
+        due("hop(1, 2)", w.hop(1, 2), 2);
         due("hop(0, 0)", z.hop(0, 0), 1);
         due("hop(1, 0)", z.hop(1, 0), 2);
     }
@@ -570,6 +574,31 @@ public final class BoundaryTermsTest extends Sentences {
         // Another number ahead in the row of leaves is another leaf.
         RouteStrides y = of("0.0.0.0/5=1 1;16.0.0.0/5=1 1;24.0.0.0/5=2 2");
         due("half none, half another hop", y.alike(1, 2), 0);
+        // 60 addresses of 60 hops: nodes have the same bits down to the last level, and none are like.
+        RouteStrides z = new RouteStrides();
+        z.strides(266666);
+        for (int i = 0; i < 60; i++) {
+            z.add(i << 26, 32, i, 0);
+        }
+        due("of 60 hops, nodes", z.count(3), 1 + 4 + 4 * 60);
+        due("of 60 hops, unlike nodes", z.count(4), 1 + 4 + 4 * 60);
+        for (int n = 6; n < 65; n++) {
+            due("alike(5, " + n + ")", z.alike(5, n), 0);
+        }
+        // 30 nodes of level 1, each of which leads to two, all of the same bits.
+        RouteStrides w = new RouteStrides();
+        w.strides(555566);
+        for (int i = 0; i < 60; i++) {
+            w.add(i / 2 << 27 | i % 2 << 22, 32, i, 0);
+        }
+        due("leading to two, level(1, 1)", w.level(1, 1), 30);
+        due("leading to two, level(1, 3)", w.level(1, 3), 30);
+        due("leading to two, alike(1, 2)", w.alike(1, 2), 0);
+        for (int i = 0; i < 60; i++) {
+            w.add(i / 2 << 27 | i % 2 << 22, 32, i % 2, 0);
+        }
+        due("leading to two of two hops, level(1, 3)", w.level(1, 3), 1);
+        due("leading to two of two hops, level(2, 3)", w.level(2, 3), 2);
     }
 
     // ---- touched
@@ -636,6 +665,19 @@ public final class BoundaryTermsTest extends Sentences {
         RouteStrides y = new RouteStrides();
         y.strides(266666);
         due("strides of no rules", y.count(8), 0);
+        // Nodes of other VALUES, on both sides and of lower levels, are as they were.
+        RouteStrides z = of("16.0.0.0/12=1 1;240.0.0.0/12=1 1");
+        z.add(HIGH, 5, 1, 1);
+        due("between others: node 0 and one", z.count(8), 2);
+        z.add(0, 5, 1, 1);
+        due("ahead of others: node 0 and one", z.count(8), 2);
+        z.add(HIGH, 13, 2, 2);
+        due("under one: itself, and two just behind", z.count(8), 3);
+        z.withdraw(240 << 24, 12);
+        due("behind others: node 0 and two just ahead", z.count(8), 3);
+        z.withdraw(0, 5);
+        due("ahead of others: node 0 and one", z.count(8), 2);
+        due("would be behind others: node 0 and seven", z.would(-1, 32, 1, 1), 8);
     }
 
     @Of(promise = 0, sentence = "(HOPS as GATE and PORT.)")
@@ -787,6 +829,9 @@ public final class BoundaryTermsTest extends Sentences {
         due("rule(0, 1)", x.rule(0, 1), 0);
         due("rule(1, 0)", x.rule(1, 0), 1 << 30);
         due("rule(2, 2)", x.rule(2, 2), 2);
+        for (int hop = 0; hop < 3; hop++) {
+            due("one has hop " + hop, x.hop(hop, 2), 1);
+        }
         same("the fewest of these", few(x), few);
     }
 
