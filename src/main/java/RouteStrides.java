@@ -1194,7 +1194,10 @@ public final class RouteStrides {
             long sum = 0;
             int i = 0;
             int j = 0;
-            while (i < size && i < MOST_SPANS && j < other.size && j < MOST_SPANS) {
+            for (int turn = 0; turn < 2 * MOST_SPANS; turn++) {
+                if (i >= size || i >= MOST_SPANS || j >= other.size || j >= MOST_SPANS) {
+                    break;
+                }
                 long from = Math.max(first[i], other.first[j]);
                 long to = Math.min(last[i], other.last[j]);
                 if (keyOfSpan[i] != other.keyOfSpan[j]) {
@@ -1423,7 +1426,7 @@ public final class RouteStrides {
             int found = 0;
             int m = 0;
             int n = 0;
-            while (has(m) && other.has(n)) {
+            for (int turn = 0; turn < 2 * MOST_NODES && has(m) && other.has(n); turn++) {
                 long order = orderOf(m, other, n);
                 if (order != 0 || !isSame(m, other, n)) {
                     found++;
@@ -1465,10 +1468,12 @@ public final class RouteStrides {
 
         private int kindOf(Nodes nodes, int n) {
             int row = rowOf(nodes, n);
-            for (int m = rowStart[row]; m >= 0 && m < MOST_NODES; m = nextInRow[m]) {
+            int m = rowStart[row];
+            for (int turn = 0; turn < MOST_NODES && m >= 0 && m < MOST_NODES; turn++) {
                 if (nodes.isSame(m, nodes, n) && leadToLike(nodes, m, n)) {
                     return m;
                 }
+                m = nextInRow[m];
             }
             nextInRow[n] = rowStart[row];
             rowStart[row] = n;

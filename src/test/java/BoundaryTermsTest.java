@@ -678,6 +678,12 @@ public final class BoundaryTermsTest extends Sentences {
         z.withdraw(0, 5);
         due("ahead of others: node 0 and one", z.count(8), 2);
         due("would be behind others: node 0 and seven", z.would(-1, 32, 1, 1), 8);
+        // The last of its level comes or goes, where the others go on with the next level.
+        RouteStrides w = of("16.0.0.0/12=1 1");
+        w.add(240 << 24, 5, 1, 1);
+        due("the last of level 1 comes", w.count(8), 2);
+        w.withdraw(240 << 24, 5);
+        due("the last of level 1 goes", w.count(8), 2);
     }
 
     @Of(promise = 0, sentence = "(HOPS as GATE and PORT.)")
