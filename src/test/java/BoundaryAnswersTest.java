@@ -811,6 +811,12 @@ public final class BoundaryAnswersTest extends Sentences {
         due("four quarters", of("64.0.0.0/2=1 1;192.0.0.0/2=1 1").best(16, 0), 4);
         due("both ends", bothEnds().best(16, 0), 4 + 15 * 8);
         due("both ends", bothEnds().best(16, 1), 2222222222222222L);
+        RouteStrides shrunk = bothEnds();
+        due("both ends", shrunk.best(16, 0), 124);
+        shrunk.withdraw(-1, 32);
+        due("one end is left", shrunk.best(16, 0), 64);
+        shrunk.withdraw(0, 32);
+        due("none is left", shrunk.best(16, 0), 4);
         // 64 slots of one node; 4 and then 4 nodes of 16 would be 68. What is left has no nodes.
         RouteStrides y = new RouteStrides();
         for (int i = 0; i < 60; i++) {
